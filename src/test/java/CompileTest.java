@@ -22,6 +22,8 @@ public final class CompileTest {
         argCounts();
         kinds();
         stateAfterwards();
+        formatsCutAnywhere();
+        formatsAnew();
         Check.finish();
     }
 
@@ -267,5 +269,30 @@ public final class CompileTest {
         Check.due("args after compile", check.out(), "3+4");
         check.compiled("%d-%d");
         Check.due("scan of the input after compile", check.x.scan(), 2);
+    }
+
+    /** A format that ends inside a directive answers the same at the edge of the room and before chars of an older format. */
+    private static void formatsCutAnywhere() {
+        String[] formats = {"%1$-+ 0#12.34ld", "%9999$d", "%*9$d", "%.*9$d", "%-999d", "%.999d", "%*.*d", "%%%%%d", "%ls"};
+        for (String format : formats) {
+            for (int length = 1; length <= format.length(); length++) {
+                String cut = "a" + format.substring(0, length);
+                int want = Check.with(cut).x.compile();
+                Check older = Check.fresh(16).compiled("a" + format + format);
+                Check.due("compile of '" + cut + "' after a longer one", older.format(cut).x.compile(), want);
+                Check.compiles("a".repeat(64 - cut.length()) + cut, want);
+            }
+        }
+    }
+
+    private static void formatsAnew() {
+        Check check = Check.fresh(16);
+        String[] formats = {"%1$d%2$d", "%d", "%d%d%d%d%d%d%d%d", "%1$d", "abc", "%3$d%2$d%1$d", "%*.*d"};
+        int[] want = {2, 1, 8, 1, 0, 3, 3};
+        for (int i = 0; i < formats.length; i++) {
+            check.compiled(formats[i]);
+            Check.due("argCount of '" + formats[i] + "' after other formats", check.x.argCount(), want[i]);
+            check.compiled("%9$d");
+        }
     }
 }

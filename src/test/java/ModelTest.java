@@ -55,7 +55,7 @@ public final class ModelTest {
         model.clearFormat();
         StringBuilder format = new StringBuilder();
         boolean positional = dice.oneIn(3);
-        int pieces = dice.below(7);
+        int pieces = dice.oneIn(8) ? 25 : dice.below(7);
         for (int i = 0; i < pieces; i++) {
             format.append(dice.oneIn(3) ? literal() : directive(positional));
         }

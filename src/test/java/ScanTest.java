@@ -13,6 +13,7 @@ public final class ScanTest {
         slots();
         refusals();
         readers();
+        inputsCutAnywhere();
         Check.finish();
     }
 
@@ -41,6 +42,7 @@ public final class ScanTest {
         Check.scans(" x", "\u00A0x", 0, 0, 0);
         Check.scans(" x", "\u2003x", 0, 0, 0);
         Check.scans("ab%d", "ac5", 0, 0, 1);
+        Check.scans("x%d", "5", 0, 0, 0);
         Check.scans("%d x%d", "5  y6", 1, 1, 3, 5);
     }
 
@@ -247,5 +249,33 @@ public final class ScanTest {
         Check.due("scanned(7) after the texts were cleared", check.x.scanned(7), 8L);
         Check.due("scanMask after the texts were cleared", check.x.scanMask(), 255);
         Check.due("scanEnd after the texts were cleared", check.x.scanEnd(), 15);
+    }
+
+    /** An input that ends inside a number answers the same at the edge of the room and before chars of an older input. */
+    private static void inputsCutAnywhere() {
+        String[] formats = {" %d", " %u", " %x", " %o", " %s", " %c", " x", " 0x%x", " %3x%c", " -%d%d"};
+        String[] inputs = {"-12345", "+0", "0x1F", "00xA", "777", "abcdefghij", "x", " \t 5"};
+        for (String format : formats) {
+            for (String input : inputs) {
+                for (int length = 0; length <= input.length(); length++) {
+                    cutInput(format, input, length);
+                }
+            }
+        }
+    }
+
+    private static void cutInput(String format, String input, int length) {
+        String cut = input.substring(0, length);
+        Check fresh = Check.fresh(16).compiled(format).input(cut);
+        int want = fresh.x.scan();
+        String seen = fresh.seen();
+        Check older = Check.fresh(16).compiled(format).input(input + input).input(cut);
+        String call = "scan of '" + cut + "' by '" + format + "'";
+        Check.due(call + " after a longer input", older.x.scan(), want);
+        Check.due(call + " after a longer input, seen", older.seen(), seen);
+        int room = 256 - length;
+        Check full = Check.fresh(16).compiled(format).input(" ".repeat(room) + cut);
+        full.scanIs(call + " at the end of a full input", want, fresh.x.scanMask(), room + fresh.x.scanEnd(),
+            fresh.x.scanned(0), fresh.x.scanned(1));
     }
 }
