@@ -293,7 +293,8 @@ public final class RenderEdgeTest {
         }
         for (int shift = 0; shift < 64; shift++) {
             for (long n : new long[] {1L << shift, (1L << shift) - 1, -(1L << shift)}) {
-                Check.renders("%lu %lx %lo", Long.toUnsignedString(n) + " " + Long.toHexString(n) + " " + Long.toOctalString(n), n, n, n);
+                String want = Long.toUnsignedString(n) + " " + Long.toHexString(n) + " " + Long.toOctalString(n);
+                Check.renders("%lu %lx %lo", want, n, n, n);
             }
         }
     }
@@ -425,7 +426,7 @@ public final class RenderEdgeTest {
         Check.renders("%2d|%3d|%4d", "-12|-12| -12", -12, -12, -12);
         Check.renders("%#3x|%#4x|%#5x", "0xff|0xff| 0xff", 255, 255, 255);
         Check.renders("%1c|%2c|%-2c|", "a| a|a |", 'a', 'a', 'a');
-        Check.renders("%7s|%8s|%9s", "abcdefgh|abcdefgh| abcdefgh", 0x6867666564636261L, 0x6867666564636261L, 0x6867666564636261L);
+        Check.renders("%1$7s|%1$8s|%1$9s", "abcdefgh|abcdefgh| abcdefgh", 0x6867666564636261L);
         Check.renders("%3.3d|%4.3d|%-4.3d|", "012| 012|012 |", 12, 12, 12);
         Check.renders("%99s|", " ".repeat(99) + "|", 0);
     }
