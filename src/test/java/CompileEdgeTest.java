@@ -328,6 +328,7 @@ public final class CompileEdgeTest {
         refused(fifteen + "%9$d", BAD_POS);
         refused(fifteen + "%1$y", BAD_CONV);
         refused(fifteen + "%1$", TRUNCATED);
+        refused(fifteen + "%100", BAD_WIDTH);
         refused(fifteen + "%ls", BAD_LENGTH);
         refused(fifteen + "%d", MIXED);
         refused(fifteen + "%3$d", GAP);
