@@ -267,12 +267,18 @@ public final class FormatScanner {
         if (entryCount == 0 || kinds[entryCount - 1] != KIND_LITERAL) {
             addEntry();
         }
-        literals[literalTotal] = c;
-        literalTotal++;
-        literalEnd[entryCount - 1] = literalTotal;
+        if (literalTotal < MAX_FORMAT) {
+            literals[literalTotal] = c;
+            literalTotal++;
+            literalEnd[entryCount - 1] = literalTotal;
+        }
     }
 
     private void addEntry() {
+        // No format needs more rows; the index is looked at so that this can be seen here.
+        if (entryCount >= MAX_FORMAT) {
+            return;
+        }
         kinds[entryCount] = KIND_LITERAL;
         literalStart[entryCount] = literalTotal;
         literalEnd[entryCount] = literalTotal;
@@ -286,8 +292,8 @@ public final class FormatScanner {
     }
 
     private int readDirective() {
-        int entry = entryCount;
         addEntry();
+        int entry = entryCount - 1;
         cursor++;
         widthUse = NONE;
         precisionUse = NONE;
@@ -488,16 +494,20 @@ public final class FormatScanner {
 
     // What an entry asks for, with its stars looked up.
 
+    private long argAt(int slot) {
+        return slot >= 0 && slot < SLOTS ? args[slot] : 0;
+    }
+
     private boolean starsAreGood() {
         for (int entry = 0; entry < entryCount; entry++) {
             if (widthSlots[entry] != NONE) {
-                int width = (int) args[widthSlots[entry]];
+                int width = (int) argAt(widthSlots[entry]);
                 if (width < -MAX_FIELD || width > MAX_FIELD) {
                     return false;
                 }
             }
             if (precisionSlots[entry] != NONE) {
-                int precision = (int) args[precisionSlots[entry]];
+                int precision = (int) argAt(precisionSlots[entry]);
                 if (precision > MAX_FIELD) {
                     return false;
                 }
@@ -510,7 +520,7 @@ public final class FormatScanner {
         if (widthSlots[entry] == NONE) {
             return widths[entry];
         }
-        int width = (int) args[widthSlots[entry]];
+        int width = (int) argAt(widthSlots[entry]);
         return width < 0 ? -width : width;
     }
 
@@ -518,7 +528,7 @@ public final class FormatScanner {
         if (precisionSlots[entry] == NONE) {
             return precisions[entry];
         }
-        int precision = (int) args[precisionSlots[entry]];
+        int precision = (int) argAt(precisionSlots[entry]);
         return precision < 0 ? NONE : precision;
     }
 
@@ -526,7 +536,7 @@ public final class FormatScanner {
         if (hasFlag(entry, FLAG_LEFT)) {
             return true;
         }
-        return widthSlots[entry] != NONE && (int) args[widthSlots[entry]] < 0;
+        return widthSlots[entry] != NONE && (int) argAt(widthSlots[entry]) < 0;
     }
 
     private boolean hasFlag(int entry, int flag) {
@@ -560,7 +570,8 @@ public final class FormatScanner {
         textLength = 0;
         int conversion = conversionOf(entry);
         if (conversion == 'c') {
-            writeChar((char) args[valueSlots[entry]]);
+            long value = argAt(valueSlots[entry]);
+            writeChar((char) value);
         } else if (conversion == 's') {
             writePackedText(entry);
         } else {
@@ -607,7 +618,7 @@ public final class FormatScanner {
     }
 
     private void writePackedText(int entry) {
-        long packed = args[valueSlots[entry]];
+        long packed = argAt(valueSlots[entry]);
         int precision = precisionOf(entry);
         int most = precision == NONE || precision > TEXT_CHARS ? TEXT_CHARS : precision;
         for (int k = 0; k < most; k++) {
@@ -620,7 +631,8 @@ public final class FormatScanner {
     }
 
     private void writeNumber(int entry) {
-        long n = fitted(entry, args[valueSlots[entry]]);
+        long value = argAt(valueSlots[entry]);
+        long n = fitted(entry, value);
         int precision = precisionOf(entry);
         int digitCount = splitIntoDigits(entry, n);
         if (n == 0 && precision == 0) {
@@ -737,9 +749,15 @@ public final class FormatScanner {
             scanPos = start;
             return false;
         }
-        results[valueSlots[entry]] = scanValue;
-        resultMask |= 1 << valueSlots[entry];
+        keepResult(valueSlots[entry]);
         return true;
+    }
+
+    private void keepResult(int slot) {
+        if (slot >= 0 && slot < SLOTS) {
+            results[slot] = scanValue;
+            resultMask |= 1 << slot;
+        }
     }
 
     private boolean scanChar() {
